@@ -363,9 +363,11 @@ public final class PromisesTest {
         due("6: time", d.time(), 5);
         d.drive(3, 1, 0);
         due("6: units below 0 are 0: the present time is in", d.run(-7, 200), 1);
+        d.drive(3, 2, 0);
+        due("6: units of -1 are 0 too", d.run(-1, 200), 1);
         due("6: the greatest arguments", d.run(Integer.MAX_VALUE, Integer.MAX_VALUE), 1);
         due("6: time", d.time(), 9);
-        due("6: cycles", d.cycles(), 4);
+        due("6: cycles", d.cycles(), 5);
 
         DeltaCycles units = new DeltaCycles();
         for (int delay = 1; delay <= 9; delay++) {
