@@ -3,11 +3,14 @@ import java.util.List;
 
 /**
  * Long mixed runs of calls, each answer compared with that of a second simulator, which follows
- * the document's words (a list of changes with absolute times) and not the class's way.
+ * the document's words (a list of changes with absolute times) and not the class's way. No object
+ * is used for more than 512 calls.
  */
 public final class ModelTest {
-    private static final int OBJECTS = 3000;
-    private static final int CALLS = 512;
+    private static final int OBJECTS = 20000;
+
+    // With the 46 calls of compareAll they are 512: what an object answers later is free.
+    private static final int MIXED_CALLS = 466;
 
     private record Change(int signal, int value, int time, boolean nextCycle) {
     }
@@ -223,7 +226,7 @@ public final class ModelTest {
     private static void oneCall(DeltaCycles d, Model m, int reach, String where) {
         int a = mostlyWithin(reach);
         int v = someValue();
-        switch (below(20)) {
+        switch (below(40)) {
             case 0 -> {
                 int how = someHow();
                 int signals = someSignals(reach);
@@ -251,7 +254,19 @@ public final class ModelTest {
                     m.reset();
                 }
             }
-            default -> compare(where + "value(" + a + ")", d.value(a), m.value(a));
+            default -> oneQuestion(d, m, a, where);
+        }
+    }
+
+    private static void oneQuestion(DeltaCycles d, Model m, int a, String where) {
+        switch (below(7)) {
+            case 0 -> compare(where + "value(" + a + ")", d.value(a), m.value(a));
+            case 1 -> compare(where + "time()", d.time(), m.time);
+            case 2 -> compare(where + "pending()", d.pending(), m.changes.size());
+            case 3 -> compare(where + "nextTime()", d.nextTime(), m.nextTime());
+            case 4 -> compare(where + "events(" + a + ")", d.events(a), m.events(a));
+            case 5 -> compare(where + "cycles()", d.cycles(), m.cycles);
+            default -> compare(where + "coming(" + a + ")", d.coming(a), m.coming(a));
         }
     }
 
@@ -272,11 +287,11 @@ public final class ModelTest {
             DeltaCycles d = new DeltaCycles();
             Model m = new Model();
             int reach = object % 2 == 0 ? 4 : 12;
-            for (int call = 0; call < CALLS && wrong == 0; call++) {
-                String where = "object " + object + ", call " + call + ": ";
-                oneCall(d, m, reach, where);
-                compareAll(d, m, where + "after it ");
+            int mixed = below(MIXED_CALLS) + 1;
+            for (int call = 0; call < mixed && wrong == 0; call++) {
+                oneCall(d, m, reach, "object " + object + ", call " + call + ": ");
             }
+            compareAll(d, m, "object " + object + ", at the end ");
         }
         System.out.println(wrong == 0 ? "all answers are the model's" : "stopped at the first call that differs");
         if (wrong != 0) {
