@@ -215,9 +215,7 @@ public final class DeltaCycles {
     }
 
     private int doCycleAfter(int wait) {
-        if (wait > 0) {
-            goForward(wait);
-        }
+        goForward(wait);
         int changed = takeNewValues();
         carryOutWatchersOf(changed);
         cyclesDone++;

@@ -23,7 +23,12 @@ public final class BoundariesTest {
     private static void sentence(String where, String words, Runnable test) {
         int before = wrong;
         sentences++;
-        test.run();
+        try {
+            test.run();
+        } catch (RuntimeException thrown) {
+            wrong++;
+            System.out.println("  a call threw " + thrown);
+        }
         if (wrong > before) {
             System.out.println("BROKEN, " + where + ": \"" + words + "\"");
         }
@@ -102,8 +107,8 @@ public final class BoundariesTest {
         d.process(how(SUM, 1), signals(0, 1, 0, 4), 0, 0b11);
         d.process(how(AND, 3), signals(5, 6, 0, 7), 0, 0b1100000);
         d.process(how(XOR, 0), signals(5, 6, 0, 8), 0, 0b1100000);
-        d.process(how(INC, 4), signals(9, 0, 0, 9), 1, 1 << 9);
         d.process(how(NOT, 5), signals(2, 0, 0, 11), 0, 1 << 2);
+        d.process(how(INC, 4), signals(9, 0, 0, 9), 1, 1 << 9);
     }
 
     private static void becomeIdle(DeltaCycles d) {
@@ -129,44 +134,76 @@ public final class BoundariesTest {
 
     // ---- what an object tells ----
 
-    /** Forty calls. */
-    private static List<Integer> state(DeltaCycles d) {
-        List<Integer> told = new ArrayList<>(List.of(d.time(), d.pending(), d.nextTime(), d.cycles()));
-        for (int signal = 0; signal < 12; signal++) {
-            told.add(d.value(signal));
-            told.add(d.events(signal));
-            told.add(d.coming(signal));
+    private enum Question {
+        VALUE, EVENTS, COMING, TIME, PENDING, NEXT_TIME, CYCLES;
+
+        boolean isOfASignal() {
+            return this == VALUE || this == EVENTS || this == COMING;
+        }
+
+        int ask(DeltaCycles d, int signal) {
+            return switch (this) {
+                case VALUE -> d.value(signal);
+                case EVENTS -> d.events(signal);
+                case COMING -> d.coming(signal);
+                case TIME -> d.time();
+                case PENDING -> d.pending();
+                case NEXT_TIME -> d.nextTime();
+                case CYCLES -> d.cycles();
+            };
+        }
+    }
+
+    private static void tell(List<Integer> told, DeltaCycles d, Question question, Question unasked) {
+        int last = question.isOfASignal() ? 11 : 0;
+        for (int signal = 0; signal <= last && question != unasked; signal++) {
+            told.add(question.ask(d, signal));
+        }
+    }
+
+    /** At most forty calls. */
+    private static List<Integer> state(DeltaCycles d, Question unasked) {
+        List<Integer> told = new ArrayList<>();
+        for (Question question : Question.values()) {
+            tell(told, d, question, unasked);
         }
         return told;
     }
 
+    private static void tellSteps(List<Integer> told, DeltaCycles d, int steps, Question unasked) {
+        for (int step = 0; step < steps; step++) {
+            told.add(d.step());
+            tell(told, d, Question.TIME, unasked);
+            tell(told, d, Question.VALUE, unasked);
+        }
+    }
+
     /**
      * What the object tells now and what comes of it: its pending changes one after the other,
-     * what its processes watch and what each does, and how many more it takes. Some 350 calls.
+     * what its processes watch and what each does, and how many more it takes. Some 420 calls.
+     * One question can be left unasked, so that what it changes is not changed by asking here.
      */
-    private static List<Integer> future(DeltaCycles d) {
-        List<Integer> told = state(d);
-        for (int cycle = 0; cycle < 10; cycle++) {
-            told.add(d.step());
-            for (int signal = 0; signal < 12; signal++) {
-                told.add(d.value(signal));
-            }
-        }
+    private static List<Integer> future(DeltaCycles d, Question unasked) {
+        List<Integer> told = state(d, unasked);
+        tellSteps(told, d, 10, unasked);
         for (int signal = 0; signal < 12; signal++) {
             told.add(d.drive(signal, 1000 + 37 * signal, 0));
         }
         told.add(d.step());
-        told.addAll(state(d));
+        told.addAll(state(d, unasked));
         for (int process = 0; process <= 8; process++) {
             told.add(d.poke(process));
-            for (int signal = 0; signal < 12; signal++) {
-                told.add(d.coming(signal));
-            }
+            tell(told, d, Question.COMING, unasked);
         }
         for (int more = 0; more <= 8; more++) {
             told.add(d.process(0, 0, 0, 0));
         }
+        tellSteps(told, d, 4, unasked);
         return told;
+    }
+
+    private static List<Integer> future(DeltaCycles d) {
+        return future(d, null);
     }
 
     private static void nothingChanged(String call, DeltaCycles d, DeltaCycles untouched) {
@@ -563,20 +600,22 @@ public final class BoundariesTest {
         due("time", from.time(), 9);
     }
 
+    private static List<Integer> askedWidely(DeltaCycles d, Question question) {
+        List<Integer> told = new ArrayList<>(List.of(question.ask(d, MIN), question.ask(d, MAX)));
+        for (int signal = -1; signal <= 12; signal++) {
+            told.add(question.ask(d, signal));
+        }
+        return told;
+    }
+
     private static void theQuestionsChangeNothing() {
-        int[] asked = {MIN, -1, 0, 1, 2, 3, 4, 5, 6, 7, 8, 9, 10, 11, 12, MAX};
-        for (Start start : STARTS) {
-            DeltaCycles d = start.made();
-            d.time();
-            d.pending();
-            d.nextTime();
-            d.cycles();
-            for (int signal : asked) {
-                d.value(signal);
-                d.events(signal);
-                d.coming(signal);
+        for (Question question : Question.values()) {
+            for (Start start : STARTS) {
+                DeltaCycles d = start.made();
+                same(question + " asked again on " + start.name, askedWidely(d, question), askedWidely(d, question));
+                same(question + " on " + start.name + " changed something",
+                        future(d, question), future(start.made(), question));
             }
-            nothingChanged("the seven questions on " + start.name, d, start.made());
         }
     }
 
@@ -608,7 +647,8 @@ public final class BoundariesTest {
                 due("11 at bit " + place + ", kind " + kind, new DeltaCycles().process(how, taken, 0, 1), 0);
                 for (int bad = 12; bad <= 15; bad++) {
                     int tooGreat = bad << place;
-                    refused(bad + " at bit " + place + ", kind " + kind, d -> d.process(how, tooGreat, 0, 1), BAD_SIGNAL);
+                    refused(bad + " at bit " + place + ", kind " + kind,
+                            d -> d.process(how, tooGreat, 0, 1), BAD_SIGNAL);
                 }
             }
         }
@@ -686,12 +726,12 @@ public final class BoundariesTest {
         for (Start start : STARTS.subList(0, 3)) {
             for (int delay = 0; delay <= 9; delay++) {
                 DeltaCycles d = start.made();
-                List<Integer> before = state(d);
+                List<Integer> before = state(d, null);
                 for (int kind = SUM; kind <= NOT && start.processes + kind < 8; kind++) {
                     due("process on " + start.name, d.process(how(kind, delay), signals(0, 1, 2, 5), 3, -1),
                             start.processes + kind);
                 }
-                same("a process added to " + start.name, state(d), before);
+                same("a process added to " + start.name, state(d, null), before);
             }
         }
     }
@@ -739,6 +779,23 @@ public final class BoundariesTest {
         }
     }
 
+    private static void driveIsAsAProcessWould() {
+        for (Start start : STARTS.subList(0, 3)) {
+            for (int delay = 0; delay <= 9; delay++) {
+                for (int target = 0; target < 12; target++) {
+                    DeltaCycles driven = start.made();
+                    DeltaCycles poked = start.made();
+                    int value = driven.value(0) + 77;
+                    driven.process(how(INC, delay), signals(0, 0, 0, target), 77, 0);
+                    poked.process(how(INC, delay), signals(0, 0, 0, target), 77, 0);
+                    String call = "drive(" + target + ", " + value + ", " + delay + ") on " + start.name;
+                    due(call, driven.drive(target, value, delay), poked.poke(start.processes));
+                    same(call + " and the process", future(driven), future(poked));
+                }
+            }
+        }
+    }
+
     private static void driveAnswersHowManyArePending() {
         DeltaCycles d = new DeltaCycles();
         int count = 0;
@@ -771,6 +828,25 @@ public final class BoundariesTest {
         d.drive(0, 1000, 0);
         d.poke(0);
         due("it sees values, not what is coming", d.coming(11), 100);
+    }
+
+    private static void pokeAnswersHowManyArePending() {
+        for (Start start : STARTS) {
+            for (int process = 0; process < start.processes; process++) {
+                DeltaCycles d = start.made();
+                int answer = d.poke(process);
+                due("poke(" + process + ") on " + start.name, answer, d.pending());
+                due("poke(" + process + ") again on " + start.name, d.poke(process), answer);
+            }
+        }
+        DeltaCycles most = new DeltaCycles();
+        most.process(how(SUM, 0), signals(0, 0, 0, 11), 0, 0);
+        for (int delay = 0; delay <= 9; delay++) {
+            for (int signal = 0; signal < 12; signal++) {
+                most.drive(signal, 1, delay);
+            }
+        }
+        due("one takes ten of 120 out", most.poke(0), 111);
     }
 
     private static void pokeOfNoProcess() {
@@ -958,7 +1034,8 @@ public final class BoundariesTest {
         }
         most.run(5, 200);
         most.reset();
-        same("reset with the most changes", future(most), future(new DeltaCycles()));
+        same("reset with the most changes", state(most, null), state(new DeltaCycles(), null));
+        due("none of them comes", most.run(1000, 200), 0);
     }
 
     private static void sinceTheStartOrTheLastReset() {
@@ -1215,7 +1292,8 @@ public final class BoundariesTest {
                 + " as they are.", BoundariesTest::earlierOnesAndTheNextCycleAreLeft);
         sentence("Terms", "all signals that have a change for it take their new values at once",
                 BoundariesTest::allTakeTheirValuesAtOnce);
-        sentence("Terms", "a signal whose value is another one now has an EVENT", BoundariesTest::anotherValueIsAnEvent);
+        sentence("Terms", "a signal whose value is another one now has an EVENT",
+                BoundariesTest::anotherValueIsAnEvent);
         sentence("Terms", "every process that watches a signal with an event is carried out, in the order of their"
                 + " numbers, each seeing the new values", BoundariesTest::watchersInOrder);
         sentence("Terms", "if there are changes for the next delta cycle, that is done at the same time",
@@ -1238,14 +1316,19 @@ public final class BoundariesTest {
         sentence("Promise 2", "It is not carried out by this.", BoundariesTest::notCarriedOutWhenAdded);
         sentence("Promise 2", "Else answers its number.", BoundariesTest::processAnswersItsNumber);
         sentence("Promise 3", "signal not in 0 to 11: BAD_SIGNAL", BoundariesTest::driveOfNoSignal);
-        sentence("Promise 3", "delay not in 0 to 9: BAD_DELAY; nothing changes then.", BoundariesTest::driveWithNoDelay);
+        sentence("Promise 3", "delay not in 0 to 9: BAD_DELAY; nothing changes then.",
+                BoundariesTest::driveWithNoDelay);
+        sentence("Promise 3", "with a delay 0 to 9, as a process would.", BoundariesTest::driveIsAsAProcessWould);
         sentence("Promise 3", "Else answers how many changes are pending.",
                 BoundariesTest::driveAnswersHowManyArePending);
         sentence("Promise 4", "Carries one process out now, outside any cycle.", BoundariesTest::pokeIsOutsideAnyCycle);
         sentence("Promise 4", "There is no such process: BAD_KIND, nothing changes.", BoundariesTest::pokeOfNoProcess);
+        sentence("Promise 4", "Else answers how many changes are pending.",
+                BoundariesTest::pokeAnswersHowManyArePending);
         sentence("Promise 5", "Does one delta cycle, advancing time before it if need be.",
                 BoundariesTest::stepAdvancesIfNeedBe);
-        sentence("Promise 5", "No change is pending: NOTHING, nothing changes.", BoundariesTest::stepWithNothingPending);
+        sentence("Promise 5", "No change is pending: NOTHING, nothing changes.",
+                BoundariesTest::stepWithNothingPending);
         sentence("Promise 5", "Else answers how many signals had an event.",
                 BoundariesTest::stepAnswersHowManyHadAnEvent);
         sentence("Promise 6", "at most n (n below 0 counts as 0, above 200 as 200)", BoundariesTest::runOfAtMostN);
@@ -1265,7 +1348,8 @@ public final class BoundariesTest {
                 BoundariesTest::nextTimeIsThePresentOne);
         sentence("Promise 11", "NOTHING if there is none.", BoundariesTest::nextTimeIfThereIsNone);
         sentence("Promise 12", "0 if there is no such signal.", BoundariesTest::eventsOfNoSignal);
-        sentence("Promises 12 and 13", "since the start or the last reset", BoundariesTest::sinceTheStartOrTheLastReset);
+        sentence("Promises 12 and 13", "since the start or the last reset",
+                BoundariesTest::sinceTheStartOrTheLastReset);
         sentence("Promise 14", "(one for the next delta cycle comes before all others)",
                 BoundariesTest::theNextCycleComesBeforeAllOthers);
         sentence("Promise 14", "0 if there is none.", BoundariesTest::comingIfThereIsNone);
